@@ -723,6 +723,7 @@ public final class MillPaper {
 
     private boolean wouldRather(Way paper, int owner, int sign, int n) {
         long now = meanWith(paper, owner, sign, number(owner, sign));
+        // No less than the least step, so that the loop ends by itself.
         int step = Math.max(n, LEAST_STEP);
         for (int bid = 0; bid <= GREATEST; bid += step) {
             if (meanWith(paper, owner, sign, bid) > now) {

@@ -61,6 +61,18 @@ public final class BidsTest {
         deal("THIRD, nobody", x, 0, 0, 2, 500, 500);
     }
 
+    private static void severalSigns() {
+        MillPaper x = new MillPaper();
+        x.sign(0, 1, 300, 999);
+        x.sign(0, 1, 400, 999);
+        x.sign(1, 1, 200, 999);
+        x.sign(1, 1, 500, 999);
+        x.keep(0, 1, 2, 0);
+        C.due("pays: OWNER 0 with sign 1", x.pays(0, 0, 1, 0, 100, 50), 35000);
+        C.due("pays: OWNER 1 with sign 1", x.pays(0, 1, 0, 1, 50, 100), 45000);
+        C.due("pays: OWNER 1 to sign 1", x.pays(0, 1, 1, 0, 100, 50), 5000);
+    }
+
     private static void refusalsOfDeals() {
         MillPaper x = small();
         C.due("has: shelf 8", x.has(8, 0, 0, 0, 0), -1);
@@ -212,6 +224,24 @@ public final class BidsTest {
         C.due("rests: like bids", x.rests(0, 250, -1), 4);
         C.due("rests: the first, element 0", x.rests(0, 250, 0), 0);
         C.due("rests: the first, element 1", x.rests(0, 250, 1), 0);
+        C.due("rests: STEPS up to 999 itself", x.rests(0, 333, -1), 4);
+        C.due("rests: 0 and 999", x.rests(0, 999, -1), 2);
+    }
+
+    /** As above, for two SIGNS of each: OWNER 0 bids as much as the one of OWNER 1 that bids more, up to the last row of all. */
+    private static void upToTheLastRow() {
+        MillPaper x = new MillPaper();
+        for (int s = 0; s < 2; s++) {
+            x.sign(0, 50, 900, 999);
+            x.sign(1, 50, 900, 0);
+        }
+        x.keep(0, 1, 2, 0);
+        C.due("rests: four SIGNS, five STEPS", x.rests(0, 200, -1), 25);
+        x.row(1, 1, 4);
+        for (int k = 0; k < 4; k++) {
+            x.put(1, k, 800);
+        }
+        C.due("rest: the last row", x.rest(0, 1, 200), -4);
     }
 
     /** What one has more the other has less, and each bid for the one is answered by another for the other. */
@@ -229,12 +259,14 @@ public final class BidsTest {
 
     public static void main(String[] args) {
         hasAndPays();
+        severalSigns();
         refusalsOfDeals();
         meanBid();
         refusalsOfBids();
         rest();
         rests();
         severalAtRest();
+        upToTheLastRow();
         noneAtRest();
         C.end();
     }

@@ -55,6 +55,18 @@ public final class NamingTest {
         C.due("gets: price 1000", x.gets(0, 0, 0, 0, 1000), -1000000001);
     }
 
+    private static void severalSigns() {
+        MillPaper x = new MillPaper();
+        x.sign(0, 1, 300, 999);
+        x.sign(0, 1, 400, 999);
+        x.sign(1, 1, 200, 999);
+        x.sign(1, 1, 500, 999);
+        C.due("gets: OWNER 0 with sign 1", x.gets(0, 0, 1, 0, 300), 25000);
+        C.due("gets: OWNER 1 with sign 1", x.gets(1, 0, 0, 1, 300), 35000);
+        C.due("gets: OWNER 0 with sign 0, by OWNER 1", x.gets(0, 1, 0, 1, 300), 15000);
+        C.due("gets: OWNER 1 with sign 1, by OWNER 1", x.gets(1, 1, 0, 1, 301), 34950);
+    }
+
     private static void meanNamed() {
         MillPaper x = new MillPaper();
         x.sign(0, 10, 100, 999);
@@ -182,11 +194,13 @@ public final class NamingTest {
         y.sign(0, 1, 100, 999);
         y.sign(1, 100, 200, 0);
         C.due("purse: just the other need be READY", y.purse(0, 0), 1);
+        C.due("purse: OWNER 0 is the other and isn't READY", y.purse(1, 0), -3);
     }
 
     public static void main(String[] args) {
         named();
         gets();
+        severalSigns();
         meanNamed();
         bestPrice();
         tells();
