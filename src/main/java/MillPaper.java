@@ -945,7 +945,7 @@ public final class MillPaper {
     private static final class Mill {
         private final Owner zero = new Owner();
         private final Owner one = new Owner();
-        private final int[] turns = new int[SIGNS + 2];
+        private final int[] turns = new int[SIGNS + 1];
         private int part = 50;
         private int outside = 0;
         private int pieces = 0;
@@ -1057,8 +1057,8 @@ public final class MillPaper {
         }
 
         /**
-         * From one turn of the price to the next one the mean is a straight line, so that just the
-         * ends of these lines can be best: 0, each turn and the price behind it.
+         * From one turn of the price to the next one the mean is a straight line, behind the last one
+         * it stays the same, so that just the ends can be best: 0, each turn and the price behind it.
          */
         int bestOver(int namer, int s, int from, int to) {
             int found = fillTurns(namer, s, from, to);
@@ -1076,11 +1076,10 @@ public final class MillPaper {
             return best;
         }
 
-        /** A turn is the last price at which somebody buys, or the greatest price of all. */
+        /** A turn is the last price at which somebody buys. */
         private int fillTurns(int namer, int s, int from, int to) {
-            turns[0] = GREATEST;
-            turns[1] = lastPrice(namer, s);
-            int found = 2;
+            turns[0] = lastPrice(namer, s);
+            int found = 1;
             for (int t = from; t < to && found < turns.length; t++) {
                 turns[found] = Math.min(owner(1 - namer).worth(t), lastPrice(1 - namer, t));
                 found++;
@@ -1126,7 +1125,7 @@ public final class MillPaper {
         }
 
         boolean isStretch(int i, int n) {
-            return i >= 0 && n >= 0 && i <= elements.length && n <= elements.length - i;
+            return i >= 0 && n >= 0 && n <= elements.length - i;
         }
 
         int at(int i) {
